@@ -528,10 +528,12 @@ public final class TurningGroups {
         /** A set spans what its highest element spans with the span of the others. */
         private void findSpans() {
             spans[0] = 1;
-            for (int set = 1; set <= whole(); set++) {
-                int highest = Integer.highestOneBit(set);
-                int others = spans[set ^ highest];
-                spans[set] = (others & highest) == 0 ? grownToSpan(others | highest) : others;
+            for (int a = 0; a < size; a++) {
+                int highest = 1 << a;
+                for (int others = 0; others < highest; others++) {
+                    int less = spans[others];
+                    spans[others | highest] = (less & highest) == 0 ? grownToSpan(less | highest) : less;
+                }
             }
         }
 

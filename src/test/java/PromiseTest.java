@@ -299,8 +299,13 @@ public final class PromiseTest {
         x.drop();
         is("map(-1) behind drop()", x.map(-1), 0);
         x.period(5);
+        is("map(-1) behind period(5)", x.map(-1), 4);
         x.handles(1);
         is("map(-1) behind handles(1)", x.map(-1), 100);
+        is("map(0) behind handles(1)", x.map(0), 14);
+        is("map(99) behind handles(1)", x.map(99), 4441);
+        x.handles(0);
+        is("map(-1) behind handles(0)", x.map(-1), 4);
         promise = 16;
         x = of(BITS, 2, 0, 2, 2, 2);
         is("row(123)", x.row(123), 2);
@@ -340,6 +345,8 @@ public final class PromiseTest {
         is("genus() of CROSSED by a handle, 4", of(CROSSED, 1, 1, 4).genus(), 4);
         is("genus() of RING 8 by a handle, 8", of(RING, 8, 1, 8).genus(), NONE);
         is("genus() of RING 5 by 2", of(RING, 5, 0, 2).genus(), NONE);
+        is("genus() of RING 4 by 3 3", of(RING, 4, 0, 3, 3).genus(), NONE);
+        is("genus() of RING 4 by 8 2 2", of(RING, 4, 0, 8, 2, 2).genus(), NONE);
         is("genus() of RING 2 by 2 2 2", of(RING, 2, 0, 2, 2, 2).genus(), NONE);
         is("genus() of RING 2 by nothing", of(RING, 2, 0).genus(), NONE);
         is("genus() of RING 2 by 2", of(RING, 2, 0, 2).genus(), NONE);
@@ -370,6 +377,7 @@ public final class PromiseTest {
         is("left(0, 5) by a handle", x.left(0, 5), 1);
         is("left(0, 3) by a handle", x.left(0, 3), 2);
         is("left(0, 9) by a handle", x.left(0, 9), 2);
+        is("left(0, 0) by a handle", x.left(0, 0), BAD);
         is("left(0, 15) by a handle", x.left(0, 15), 1);
         promise = 20;
         x = of(RING, 8, 0, 8, 8);
@@ -498,6 +506,9 @@ public final class PromiseTest {
         is("apart(341, 542) by MOVE 14", x.apart(341, 542), 1);
         is("apart(341, 451) by MOVE 1", x.apart(341, 451), 1);
         is("apart(341, 352)", x.apart(341, 352), 1);
+        x = of(MIRRORED, 4, 1, 2, 2);
+        is("apart(1446, 1746) by MOVE 21", x.apart(1446, 1746), 1);
+        is("apart(1446, 1464) by MOVE 1", x.apart(1446, 1464), 1);
         is("apart of a ROW that is not WHOLE", of(BITS, 2, 0, 2, 2).apart(11, 11), BAD);
     }
 
@@ -531,7 +542,8 @@ public final class PromiseTest {
         is("classes(1) behind found", x.classes(1), 6);
         list("found(0, 0, 0) of RING 1", found(new TurningGroups(), 0, 0, 0), 0);
         // 2 g less 2 is 7 of each 8, less 16 without a handle
-        list("found(0, 4, 9) of RING 8", found(of(RING, 8, 0), 0, 4, 9));
+        is("found(0, 4, 9, -1) of RING 8", of(RING, 8, 0).found(0, 4, 9, -1), 0);
+        is("found(1, 2, 9, 0) of RING 8", of(RING, 8, 0).found(1, 2, 9, 0), NONE);
         list("found(0, 4, 7) of RING 8", found(of(RING, 8, 0), 0, 4, 7), 8888);
         list("found(1, 2, 8) of RING 8", found(of(RING, 8, 0), 1, 2, 8), 88);
     }
