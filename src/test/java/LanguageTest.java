@@ -3,6 +3,8 @@ import java.nio.file.Files;
 import java.nio.file.Path;
 import java.util.ArrayList;
 import java.util.List;
+import java.util.Set;
+import java.util.TreeSet;
 import java.util.regex.Matcher;
 import java.util.regex.Pattern;
 
@@ -23,6 +25,7 @@ public final class LanguageTest {
         theFace();
         methodLengths(lines);
         newOnlyInConstructors(lines);
+        theTree(SourceTree.of(Path.of("src/main/java/TurningGroups.java")));
         for (char sign : text.toCharArray()) {
             if (sign > 126) {
                 fail("3", "a sign beyond 126");
@@ -101,6 +104,39 @@ public final class LanguageTest {
         }
         for (String line : open) {
             fail("12", "made in a call: " + line);
+        }
+    }
+
+    /** What the compiler sees: kinds of code, types, the library's calls, how deep calls go, how much a class holds. */
+    private static void theTree(SourceTree tree) {
+        none("2, 6", tree.kinds, Set.of("LAMBDA_EXPRESSION", "MEMBER_REFERENCE", "THROW", "TRY", "CATCH", "ASSERT",
+            "SYNCHRONIZED", "PACKAGE", "ANNOTATION", "STRING_LITERAL", "TYPE_CAST", "DOUBLE_LITERAL", "FLOAT_LITERAL"));
+        TreeSet<String> types = new TreeSet<>(tree.types);
+        types.removeIf(type -> type.matches("int|boolean|int\\[\\]|TurningGroups\\.\\w+"));
+        none("3", types, types);
+        TreeSet<String> calls = new TreeSet<>(tree.libraryCalls);
+        calls.removeAll(Set.of("Arrays.fill", "System.arraycopy", "Math.max", "Math.min", "Integer.bitCount"));
+        none("4", calls, calls);
+        for (String method : tree.ownCalls.keySet()) {
+            if (tree.depthFrom(method) > 8) {
+                fail("8, 11", "calls from " + method + " go " + tree.depthFrom(method) + " deep");
+            }
+            if (tree.parameters.getOrDefault(method, 0) > 7) {
+                fail("11", "too many parameters of " + method);
+            }
+        }
+        for (String name : tree.fields.keySet()) {
+            if (tree.fields.get(name) > 20) {
+                fail("11", "too many fields of " + name);
+            }
+        }
+    }
+
+    private static void none(String rule, Set<String> there, Set<String> forbidden) {
+        for (String word : forbidden) {
+            if (there.contains(word)) {
+                fail(rule, "found " + word);
+            }
         }
     }
 }
