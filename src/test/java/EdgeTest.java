@@ -506,5 +506,8 @@ public final class EdgeTest {
             made += round.size();
         }
         answers("What it is, 512 calls", "the program", x, round.subList(0, 512 - made));
+        Calls model = Calls.ofModel();
+        answers("What it is, 512 calls", "the model", model, start);
+        answers("What it is, 512 calls", "the model", model, round);
     }
 }
