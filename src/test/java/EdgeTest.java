@@ -67,6 +67,9 @@ public final class EdgeTest {
         List<Call> changing = calls.stream().filter(Call::changes).toList();
         List<String> due = Everything.of(() -> made(changing));
         List<String> got = Everything.of(() -> made(calls));
+        if (got.size() != due.size()) {
+            fail(sentence + ": " + got.size() + " answers behind it, due are " + due.size());
+        }
         for (int i = 0; i < due.size() && i < got.size(); i++) {
             if (!due.get(i).equals(got.get(i))) {
                 fail(sentence + ": what is refused or only asks has changed " + got.get(i) + " from " + due.get(i));

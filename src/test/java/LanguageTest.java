@@ -10,6 +10,8 @@ import java.util.regex.Pattern;
 
 /** The rules of LANGUAGE.md that the program's text shows by itself; run from the project's root. */
 public final class LanguageTest {
+    private static final String FACE = " group of times power conjugate span subgroup normal centre handles period drop periodOf map row"
+        + " genus fixed left behind move classes classOf member apart found keep use empty like unlike image back count ";
     private static int wrong = 0;
 
     private static void fail(String rule, String what) {
@@ -52,11 +54,9 @@ public final class LanguageTest {
 
     /** Nothing but the document's face and classes inside may be seen from outside. */
     private static void theFace() {
-        String methods = " group of times power conjugate span subgroup normal centre handles period drop periodOf map row"
-            + " genus fixed left behind move classes classOf member apart found keep use empty like unlike image back count ";
         for (java.lang.reflect.Method method : TurningGroups.class.getDeclaredMethods()) {
             boolean open = !java.lang.reflect.Modifier.isPrivate(method.getModifiers());
-            if (open != methods.contains(" " + method.getName() + " ")) {
+            if (open != FACE.contains(" " + method.getName() + " ")) {
                 fail("1", "method " + method.getName());
             }
         }
@@ -118,6 +118,10 @@ public final class LanguageTest {
         calls.removeAll(Set.of("Arrays.fill", "System.arraycopy", "Math.max", "Math.min", "Integer.bitCount"));
         none("4", calls, calls);
         for (String method : tree.ownCalls.keySet()) {
+            String[] words = method.split("\\.");
+            if (!words[0].equals("TurningGroups") && FACE.contains(" " + words[1] + " ")) {
+                fail("1", method + " bears the name of a call");
+            }
             if (tree.depthFrom(method) > 8) {
                 fail("8, 11", "calls from " + method + " go " + tree.depthFrom(method) + " deep");
             }

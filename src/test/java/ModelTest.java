@@ -48,17 +48,16 @@ public final class ModelTest {
         }
     }
 
-    /** Every signature that rises (and its reverse) is laid on the group and looked at. */
+    /** Signatures that rise or fall are laid on the group and looked at, and all whose periods divide its size. */
     private static void allSignatures(int[] group) {
+        ReferenceModel model = new ReferenceModel();
+        int size = model.group(group[0], group[1]);
         for (int h = 0; h <= 1; h++) {
             for (int code = 0; code < (h == 0 ? 10000 : 100); code++) {
                 String digits = code == 0 ? "" : String.valueOf(code);
-                if (isRising(digits)) {
+                String reverse = new StringBuilder(digits).reverse().toString();
+                if (isRising(digits) || isRising(reverse) || divide(digits, size)) {
                     new ModelTest().oneSignature(group, h, digits);
-                    String reverse = new StringBuilder(digits).reverse().toString();
-                    if (!reverse.equals(digits)) {
-                        new ModelTest().oneSignature(group, h, reverse);
-                    }
                 }
             }
         }
@@ -71,6 +70,15 @@ public final class ModelTest {
                 return false;
             }
             least = digit;
+        }
+        return true;
+    }
+
+    private static boolean divide(String digits, int size) {
+        for (char digit : digits.toCharArray()) {
+            if (digit < '2' || digit > '8' || size % (digit - '0') != 0) {
+                return false;
+            }
         }
         return true;
     }

@@ -226,6 +226,10 @@ public final class RefusalTest {
     }
 
     private void same(String behind, List<String> got, List<String> due) {
+        if (got.size() != due.size()) {
+            wrong++;
+            System.out.println("[" + state + "] behind " + behind + ": " + got.size() + " answers, due are " + due.size());
+        }
         for (int i = 0; i < Math.min(got.size(), due.size()); i++) {
             if (!got.get(i).equals(due.get(i))) {
                 wrong++;
